@@ -120,14 +120,14 @@ public final class SinkingChoir {
         if (!asksRow(what)) {
             return NO;
         }
-        return explored() && ways.leastFoul() ? ways.told(what) : UNTOLD;
+        return explored() && ways.leastRow(false) ? ways.told(what) : UNTOLD;
     }
 
     public int change(int what) {
         if (!asksRow(what)) {
             return NO;
         }
-        return explored() && ways.leastChange() ? ways.told(what) : UNTOLD;
+        return explored() && ways.leastRow(true) ? ways.told(what) : UNTOLD;
     }
 
     public int bounded(int foulness) {
@@ -307,7 +307,7 @@ public final class SinkingChoir {
         }
         singing.asTold();
         long told = singing.sinking();
-        singing.asIfNobodyKnew();
+        singing.sing(choir.places, choir.givings, 0, true);
         return told - singing.sinking();
     }
 
@@ -386,7 +386,7 @@ public final class SinkingChoir {
     }
 
     private long minded(int a, int b, int turn) {
-        singing.asTurned(turn);
+        singing.sing(choir.places, choir.givings, turn, false);
         return a * (Math.abs(singing.sinking()) / 1000) + b * (singing.foulTogether() / 1000);
     }
 
@@ -495,12 +495,12 @@ public final class SinkingChoir {
         }
 
         boolean sounds(int voice, int beat) {
-            return has(voice, beat) && keys[cell(voice, beat)] != NONE;
+            return voice >= 0 && voice < VOICES && beat >= 0 && beat < BEATS && keys[voice * BEATS + beat] != NONE;
         }
 
         boolean holds(int voice, int beat) {
             return sounds(voice, beat) && sounds(voice, beat - 1)
-                && keys[cell(voice, beat)] == keys[cell(voice, beat - 1)];
+                && keys[voice * BEATS + beat] == keys[voice * BEATS + beat - 1];
         }
 
         boolean breathes(int voice, int beat) {
@@ -622,9 +622,11 @@ public final class SinkingChoir {
     /**
      * The links by which a piece can go: all keynotes of each beat that some links lead to (in rising order of
      * their exponents' ints, so that a link, which moves all alike, leads from one row to the next in step).
+     * Link 0 of a beat is none, link v + 1 is voice v.
      */
     private static final class Ways {
         private static final int MOST = 300;
+        private static final int LINKS = VOICES + 1;
         private static final int FAR = Integer.MAX_VALUE;
 
         private final Score score;
@@ -632,6 +634,8 @@ public final class SinkingChoir {
         private final int[] costs = new int[BEATS * MOST];
         private final int[] counts = new int[BEATS];
         private final int[] merged = new int[MOST];
+        private final int[] shifts = new int[BEATS * LINKS];
+        private final int[] prices = new int[BEATS * LINKS];
         private final int[] row = new int[BEATS];
         private int total;
         private int last;
@@ -640,7 +644,7 @@ public final class SinkingChoir {
             this.score = score;
         }
 
-        /** False: in some beat there could be too many keynotes. */
+        /** False: in some beat there could be too many keynotes, or there is no note. */
         boolean explore() {
             last = score.lastBeat();
             nodes[0] = 0;
@@ -649,12 +653,14 @@ public final class SinkingChoir {
                 counts[b] = counts[b - 1];
                 System.arraycopy(nodes, (b - 1) * MOST, nodes, b * MOST, counts[b]);
                 for (int v = 0; v < VOICES; v++) {
-                    if (score.holds(v, b) && !spread(b, score.shift(v, b))) {
+                    int shift = score.shift(v, b);
+                    shifts[b * LINKS + v + 1] = shift;
+                    if (score.holds(v, b) && !spread(b, shift)) {
                         return false;
                     }
                 }
             }
-            return true;
+            return last != NONE;
         }
 
         /** Merges what the beat before leads to by this shift into the beat's row. */
@@ -664,49 +670,61 @@ public final class SinkingChoir {
             int i = 0;
             int j = 0;
             int n = 0;
-            while (i < counts[beat - 1] || j < counts[beat]) {
-                if (n == MOST) {
-                    return false;
-                }
-                boolean hasOld = i < counts[beat - 1];
-                boolean hasMine = j < counts[beat];
-                int moved = hasOld ? nodes[old + i] + shift : FAR;
-                int kept = hasMine ? nodes[mine + j] : FAR;
+            for (; n < MOST && (i < counts[beat - 1] || j < counts[beat]); n++) {
+                int moved = i < counts[beat - 1] ? nodes[old + i] + shift : FAR;
+                int kept = j < counts[beat] ? nodes[mine + j] : FAR;
                 merged[n] = Math.min(moved, kept);
-                i += hasOld && moved == merged[n] ? 1 : 0;
-                j += hasMine && kept == merged[n] ? 1 : 0;
-                n++;
+                i += moved == merged[n] ? 1 : 0;
+                j += kept == merged[n] ? 1 : 0;
+            }
+            if (i < counts[beat - 1] || j < counts[beat]) {
+                return false;
             }
             System.arraycopy(merged, 0, nodes, mine, n);
             counts[beat] = n;
             return true;
         }
 
-        boolean leastFoul() {
-            return leastRow(false);
+        /** What each link costs: its beat's foulness, or whether it is another than is told; FAR: it can't be. */
+        private void price(boolean byChange) {
+            for (int b = 1; b <= last; b++) {
+                for (int link = 0; link < LINKS; link++) {
+                    int voice = link == 0 ? NONE : link - 1;
+                    int cost = FAR;
+                    if (link == 0 || score.holds(voice, b)) {
+                        int changed = voice == score.links[b] ? 0 : 1;
+                        cost = byChange ? changed : score.foulnessBy(b, Fraction.mills(shifts[b * LINKS + link]));
+                    }
+                    prices[b * LINKS + link] = cost;
+                }
+            }
         }
 
-        boolean leastChange() {
-            return leastRow(true);
+        /** Of the rows that lead back to the keynote of the beginning the cheapest, of like ones the least. */
+        boolean leastRow(boolean byChange) {
+            int goal = find(last, 0);
+            if (goal == NONE) {
+                return false;
+            }
+            price(byChange);
+            Arrays.fill(costs, FAR);
+            costs[goal] = 0;
+            for (int b = last; b >= 1; b--) {
+                for (int link = 0; link < LINKS; link++) {
+                    relax(b, link, false);
+                }
+            }
+            total = costs[0];
+            return total != FAR && follow();
         }
 
+        /** The total of the least row, or its link in a beat. */
         int told(int what) {
             return what >= 1 && what < BEATS ? row[what] : total;
         }
 
-        private boolean canLink(int voice, int beat) {
-            return voice == NONE || score.holds(voice, beat);
-        }
-
-        private int cost(int voice, int beat, boolean byChange) {
-            if (byChange) {
-                return voice == score.links[beat] ? 0 : 1;
-            }
-            return score.foulnessBy(beat, Fraction.mills(score.shift(voice, beat)));
-        }
-
         private int find(int beat, int node) {
-            for (int k = 0; k < counts[beat]; k++) {
+            for (int k = 0; beat >= 0 && beat < BEATS && k < counts[beat]; k++) {
                 if (nodes[beat * MOST + k] == node) {
                     return beat * MOST + k;
                 }
@@ -714,57 +732,37 @@ public final class SinkingChoir {
             return NONE;
         }
 
-        /** Of the rows that lead back to the keynote of the beginning the cheapest, of like ones the least. */
-        private boolean leastRow(boolean byChange) {
-            int goal = find(last, 0);
-            Arrays.fill(costs, FAR);
-            Arrays.fill(row, NONE);
-            if (goal == NONE) {
-                return false;
-            }
-            costs[goal] = 0;
-            for (int b = last; b >= 1; b--) {
-                for (int v = NONE; v < VOICES; v++) {
-                    if (canLink(v, b)) {
-                        relax(b, score.shift(v, b), cost(v, b, byChange), false);
-                    }
-                }
-            }
-            total = costs[0];
-            return total != FAR && follow(byChange);
-        }
-
         /** Takes one link from every node of the beat before: carries costs on to the beat, or back from it. */
-        private void relax(int beat, int shift, int cost, boolean onward) {
+        private void relax(int beat, int link, boolean onward) {
+            int price = prices[beat * LINKS + link];
             int t = 0;
-            for (int s = 0; s < counts[beat - 1]; s++) {
+            for (int s = 0; s < counts[beat - 1] && price != FAR; s++) {
                 int from = (beat - 1) * MOST + s;
-                int wanted = nodes[from] + shift;
-                while (t < counts[beat] && nodes[beat * MOST + t] < wanted) {
+                int wanted = nodes[from] + shifts[beat * LINKS + link];
+                while (t < counts[beat] - 1 && nodes[beat * MOST + t] < wanted) {
                     t++;
-                }
-                if (t == counts[beat]) {
-                    return;
                 }
                 int to = beat * MOST + t;
                 int source = onward ? from : to;
                 int target = onward ? to : from;
                 if (nodes[to] == wanted && costs[source] != FAR) {
-                    costs[target] = Math.min(costs[target], costs[source] + cost);
+                    costs[target] = Math.min(costs[target], costs[source] + price);
                 }
             }
         }
 
         /** From the beginning always the least link that keeps to the least cost. */
-        private boolean follow(boolean byChange) {
+        private boolean follow() {
             int at = 0;
+            Arrays.fill(row, NONE);
             for (int b = 1; b <= last; b++) {
                 int next = NONE;
-                for (int v = NONE; v < VOICES && next == NONE; v++) {
-                    int to = canLink(v, b) ? find(b, nodes[at] + score.shift(v, b)) : NONE;
-                    if (to != NONE && costs[to] != FAR && costs[at] == cost(v, b, byChange) + costs[to]) {
+                for (int link = 0; link < LINKS && next == NONE; link++) {
+                    int price = prices[b * LINKS + link];
+                    int to = price == FAR ? NONE : find(b, nodes[at] + shifts[b * LINKS + link]);
+                    if (to != NONE && costs[to] != FAR && costs[at] == price + costs[to]) {
                         next = to;
-                        row[b] = v;
+                        row[b] = link == 0 ? NONE : link - 1;
                     }
                 }
                 if (next == NONE) {
@@ -777,19 +775,18 @@ public final class SinkingChoir {
 
         /** The keynote nearest to 0 that links of no more foulness end at. */
         int nearest(int foulness) {
+            price(false);
             Arrays.fill(costs, FAR);
             costs[0] = 0;
             for (int b = 1; b <= last; b++) {
-                for (int v = NONE; v < VOICES; v++) {
-                    if (canLink(v, b)) {
-                        relax(b, score.shift(v, b), cost(v, b, false), true);
-                    }
+                for (int link = 0; link < LINKS; link++) {
+                    relax(b, link, true);
                 }
             }
             int nearest = NO;
-            for (int k = last * MOST; k < last * MOST + counts[last]; k++) {
-                if (costs[k] <= foulness) {
-                    nearest = nearer(nearest, Fraction.mills(nodes[k]));
+            for (int k = 0; last >= 0 && k < counts[last]; k++) {
+                if (costs[last * MOST + k] <= foulness) {
+                    nearest = nearer(nearest, Fraction.mills(nodes[last * MOST + k]));
                 }
             }
             return nearest;
@@ -1020,7 +1017,7 @@ public final class SinkingChoir {
 
         private void either(int open) {
             all(open);
-            while (here() == '|') {
+            for (int k = 0; k < LONGEST && here() == '|'; k++) {
                 at++;
                 int jump = out.add(Program.OR, 0);
                 all(open);
@@ -1030,7 +1027,7 @@ public final class SinkingChoir {
 
         private void all(int open) {
             piece(open);
-            while (here() == '&') {
+            for (int k = 0; k < LONGEST && here() == '&'; k++) {
                 at++;
                 int jump = out.add(Program.AND, 0);
                 piece(open);
@@ -1041,7 +1038,10 @@ public final class SinkingChoir {
         private void piece(int open) {
             int sign = here();
             if (sign != '!' && sign != '(') {
-                compare(open);
+                sum(open);
+                int op = comparison();
+                sum(open);
+                out.add(op, 0);
             } else if (open >= DEEPEST) {
                 fail(TOO_DEEP);
             } else if (sign == '!') {
@@ -1055,22 +1055,19 @@ public final class SinkingChoir {
             }
         }
 
-        private void compare(int open) {
-            sum(open);
+        private int comparison() {
             int sign = here();
-            int op = sign == '<' ? Program.LESS : sign == '>' ? Program.MORE : Program.LIKE;
-            if (op == Program.LIKE) {
-                take('=');
-            } else {
-                at++;
+            if (sign != '<' && sign != '>' && sign != '=') {
+                fail(MISPLACED);
+                return Program.LIKE;
             }
-            sum(open);
-            out.add(op, 0);
+            at++;
+            return sign == '<' ? Program.LESS : sign == '>' ? Program.MORE : Program.LIKE;
         }
 
         private void sum(int open) {
             product(open);
-            while (here() == '+' || here() == '-') {
+            for (int k = 0; k < LONGEST && (here() == '+' || here() == '-'); k++) {
                 int op = here() == '+' ? Program.PLUS : Program.MINUS;
                 at++;
                 product(open);
@@ -1080,7 +1077,7 @@ public final class SinkingChoir {
 
         private void product(int open) {
             factor(open);
-            while (here() == '*' || here() == '/' || here() == '%') {
+            for (int k = 0; k < LONGEST && (here() == '*' || here() == '/' || here() == '%'); k++) {
                 int op = here() == '*' ? Program.TIMES : here() == '/' ? Program.THROUGH : Program.REST;
                 at++;
                 factor(open);
@@ -1089,13 +1086,14 @@ public final class SinkingChoir {
         }
 
         private void factor(int open) {
-            int letter = indexIn(LETTERS, here());
+            int sign = here();
+            int letter = indexIn(LETTERS, sign);
             if (letter != NONE) {
                 at++;
                 out.add(Program.LETTER, letter);
-            } else if (isDigit()) {
+            } else if (isDigit(sign)) {
                 number();
-            } else if (here() != '[') {
+            } else if (sign != '[') {
                 fail(MISPLACED);
             } else if (open >= DEEPEST) {
                 fail(TOO_DEEP);
@@ -1106,17 +1104,17 @@ public final class SinkingChoir {
             }
         }
 
-        private boolean isDigit() {
-            return here() >= '0' && here() <= '9';
+        private static boolean isDigit(int sign) {
+            return sign >= '0' && sign <= '9';
         }
 
         private void number() {
             int value = 0;
-            for (int k = 0; k < DIGITS && isDigit(); k++) {
+            for (int k = 0; k < DIGITS && isDigit(here()); k++) {
                 value = 10 * value + here() - '0';
                 at++;
             }
-            if (isDigit()) {
+            if (isDigit(here())) {
                 fail(LONG_NUMBER);
             }
             out.add(Program.NUMBER, value);
@@ -1294,6 +1292,7 @@ public final class SinkingChoir {
         private boolean nobodyKnows;
         private long drift;
         private int luck;
+        private int many;
 
         Singing(Score score, Choir choir) {
             this.score = score;
@@ -1302,49 +1301,22 @@ public final class SinkingChoir {
         }
 
         void asTold() {
-            usual();
-            sing();
+            sing(choir.places, choir.givings, 0, false);
         }
 
-        void asIfNobodyKnew() {
-            usual();
-            nobodyKnows = true;
-            sing();
-        }
-
-        void asTurned(int toTurn) {
-            usual();
-            turn = toTurn;
-            sing();
-        }
-
-        void asPlaced(int[] atPlaces) {
-            usual();
+        void sing(int[] atPlaces, int givenAhead, int tableTurn, boolean withNobodyKnowing) {
             places = atPlaces;
-            sing();
-        }
-
-        void asGiven(int ahead) {
-            usual();
-            givings = ahead;
-            sing();
-        }
-
-        private void usual() {
-            places = choir.places;
-            givings = choir.givings;
-            turn = 0;
-            nobodyKnows = false;
-        }
-
-        private void sing() {
+            givings = givenAhead;
+            turn = tableTurn;
+            nobodyKnows = withNobodyKnowing;
             luck = choir.luck;
             drift = 0;
             for (int b = 0; b < BEATS; b++) {
+                many = choir.howMany(b);
                 if ((givings >> b & 1) == 1) {
                     giveAgain(b);
                 }
-                for (int i = 0; i < choir.count; i++) {
+                for (int i = 0; i < choir.count && many > 0; i++) {
                     if (choir.sings(i, b)) {
                         singNote(i, b);
                     }
@@ -1381,18 +1353,18 @@ public final class SinkingChoir {
             letters[0] = beat;
             letters[1] = voice;
             letters[2] = i;
-            letters[3] = knows(i) ? 1 : 0;
+            letters[3] = isKnowing(i) ? 1 : 0;
             letters[4] = choir.louds[i];
             letters[5] = score.holds(voice, beat) ? 1 : 0;
             letters[6] = Math.abs(leap);
             letters[7] = leap > 0 ? 1 : 0;
             letters[8] = score.breathes(voice, beat) ? 1 : 0;
-            letters[9] = choir.howMany(beat);
+            letters[9] = many;
             letters[10] = last == NONE ? 0 : (int) Math.floorDiv(tableOf(i, last) - lasts[i], 1000L);
             letters[11] = luck % 100;
         }
 
-        private boolean knows(int i) {
+        private boolean isKnowing(int i) {
             return choir.knowing[i] == 1 && !nobodyKnows;
         }
 
@@ -1417,7 +1389,7 @@ public final class SinkingChoir {
                 if (choir.sings(j, beat)) {
                     int weight = Choir.heard(choir.louds[j], places[i], places[j]);
                     ears += weight;
-                    heard += weight * (sung(j, beat) + millsOf(i, beat) - millsOf(j, beat));
+                    heard += weight * (pitches[j * BEATS + beat] + millsOf(i, beat) - millsOf(j, beat));
                 }
             }
             counts[Program.P] = ears > 0;
@@ -1427,7 +1399,7 @@ public final class SinkingChoir {
             aims[Program.S] = last == NONE ? 0 : stays ? lastPitch : lastPitch + millsOf(i, beat) - millsOf(i, last);
             counts[Program.T] = true;
             aims[Program.T] = tableOf(i, beat) + givenIn(beat);
-            counts[Program.K] = knows(i);
+            counts[Program.K] = isKnowing(i);
             aims[Program.K] = tableOf(i, beat);
         }
 
@@ -1452,14 +1424,14 @@ public final class SinkingChoir {
         /** Of a beat in which somebody sings; 0 of others. */
         long off(int beat) {
             long together = 0;
-            long many = 0;
+            long through = 0;
             for (int i = 0; i < choir.count; i++) {
                 if (choir.sings(i, beat)) {
                     together += sung(i, beat) - tableOf(i, beat);
-                    many++;
+                    through++;
                 }
             }
-            return many > 0 ? Math.floorDiv(together, many) : 0;
+            return through > 0 ? Math.floorDiv(together, through) : 0;
         }
 
         long foul(int beat) {
@@ -1488,8 +1460,8 @@ public final class SinkingChoir {
         }
 
         long drifting() {
-            long many = choir.howManySing();
-            return many > 0 ? Math.floorDiv(drift, many) : 0;
+            long through = choir.howManySing();
+            return through > 0 ? Math.floorDiv(drift, through) : 0;
         }
     }
 
@@ -1519,21 +1491,18 @@ public final class SinkingChoir {
             foundAt = changes;
             System.arraycopy(choir.places, 0, tried, 0, SINGERS);
             sort(0);
-            keep();
-            for (int k = 1; k < WAYS && next(); k++) {
-                singing.asPlaced(tried);
-                long far = Math.abs(singing.sinking()) - Math.abs(sinking);
-                if (far < 0 || (far == 0 && singing.foulTogether() < foul)) {
-                    keep();
+            boolean more = true;
+            for (int k = 0; k < WAYS && more; k++) {
+                singing.sing(tried, choir.givings, 0, false);
+                long off = singing.sinking();
+                long far = Math.abs(off) - Math.abs(sinking);
+                if (k == 0 || far < 0 || (far == 0 && singing.foulTogether() < foul)) {
+                    sinking = off;
+                    foul = singing.foulTogether();
+                    System.arraycopy(tried, 0, places, 0, SINGERS);
                 }
+                more = next();
             }
-        }
-
-        private void keep() {
-            singing.asPlaced(tried);
-            sinking = singing.sinking();
-            foul = singing.foulTogether();
-            System.arraycopy(tried, 0, places, 0, SINGERS);
         }
 
         private void sort(int from) {
@@ -1582,6 +1551,7 @@ public final class SinkingChoir {
             this.singing = singing;
         }
 
+        /** Sets of n are looked at from the least on; with less than three, beats of them stand for the lacking ones. */
         void find(int n) {
             int first = choir.firstBeat();
             int last = choir.lastBeat();
@@ -1592,8 +1562,10 @@ public final class SinkingChoir {
             set = 0;
             greatest = Long.MAX_VALUE;
             for (int c = first + 1; c <= last; c++) {
-                for (int b = n > 1 ? first + 1 : c; b < c || (n == 1 && b == c); b++) {
-                    for (int a = n > 2 ? first + 1 : b; a < b || (n < 3 && a == b); a++) {
+                int lastB = n > 1 ? c - 1 : c;
+                for (int b = n > 1 ? first + 1 : c; b <= lastB; b++) {
+                    int lastA = n > 2 ? b - 1 : b;
+                    for (int a = n > 2 ? first + 1 : b; a <= lastA; a++) {
                         long early = Math.max(farthest(0, a - 1), farthest(a, b - 1));
                         long late = Math.max(farthest(b, c - 1), farthest(c, last));
                         consider(1 << a | 1 << b | 1 << c, Math.max(early, late));
@@ -1608,7 +1580,7 @@ public final class SinkingChoir {
          */
         private void chart(int from, int last, int givings) {
             long most = 0;
-            singing.asGiven(givings);
+            singing.sing(choir.places, givings, 0, false);
             for (int b = from; b <= last; b++) {
                 most = Math.max(most, Math.abs(singing.off(b)));
                 far[from * BEATS + b] = most;
