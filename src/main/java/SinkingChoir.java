@@ -315,7 +315,7 @@ public final class SinkingChoir {
         if (!choir.has(i) || beat < 0 || beat >= BEATS || pitch < -PITCH_BOUND || pitch > PITCH_BOUND) {
             return false;
         }
-        choir.record(i, beat, pitch);
+        choir.putRecord(i, beat, pitch);
         return true;
     }
 
@@ -1250,7 +1250,7 @@ public final class SinkingChoir {
             return tableOf(score.keys[cell], 0) - score.mills[cell];
         }
 
-        void record(int i, int beat, int pitch) {
+        void putRecord(int i, int beat, int pitch) {
             if (has(i) && beat >= 0 && beat < BEATS) {
                 recorded[i * BEATS + beat] = pitch;
                 records[i] |= 1 << beat;
