@@ -25,7 +25,6 @@ public final class SinkingChoir {
     private final Reel reel;
     private final Reader reader;
     private Ways ways;
-    private Program spare;
     private int changes;
 
     public SinkingChoir() {
@@ -37,7 +36,6 @@ public final class SinkingChoir {
         fitting = new Fitting(score, choir, singing);
         reel = new Reel();
         reader = new Reader();
-        spare = new Program();
     }
 
     // ---- the piece
@@ -120,21 +118,24 @@ public final class SinkingChoir {
         if (!asksRow(what)) {
             return NO;
         }
-        return explored() && ways.leastRow(false) ? ways.told(what) : UNTOLD;
+        Ways open = explored();
+        return open != null && open.leastRow(false) ? open.told(what) : UNTOLD;
     }
 
     public int change(int what) {
         if (!asksRow(what)) {
             return NO;
         }
-        return explored() && ways.leastRow(true) ? ways.told(what) : UNTOLD;
+        Ways open = explored();
+        return open != null && open.leastRow(true) ? open.told(what) : UNTOLD;
     }
 
     public int bounded(int foulness) {
-        if (foulness < 0 || foulness > 100000000 || score.lastBeat() == NONE || !explored()) {
+        if (foulness < 0 || foulness > 100000000 || score.lastBeat() == NONE) {
             return NO;
         }
-        return ways.nearest(foulness);
+        Ways open = explored();
+        return open != null ? open.nearest(foulness) : NO;
     }
 
     // ---- the singers and what they are told
@@ -210,14 +211,12 @@ public final class SinkingChoir {
         if (n < 1 || n > Reader.LONGEST || n > reel.length) {
             return NONE;
         }
-        int fault = reader.read(reel.bytes, n, spare);
+        int fault = reader.read(reel.bytes, n);
         reel.length = 0;
         if (fault != 0) {
             return -fault;
         }
-        Program before = choir.words;
-        choir.words = spare;
-        spare = before;
+        choir.words = reader.exchange(choir.words);
         changed();
         return choir.words.clauses;
     }
@@ -377,12 +376,12 @@ public final class SinkingChoir {
         return (what == NONE || (what >= 1 && what < BEATS)) && score.lastBeat() != NONE;
     }
 
-    /** Made at the first asking, as most choirs never ask and its rows are the longest. */
-    private boolean explored() {
+    /** Null where none is told. Made at the first asking, as most choirs never ask and its rows are the longest. */
+    private Ways explored() {
         if (ways == null) {
             ways = new Ways(score);
         }
-        return ways.explore();
+        return ways.explore() ? ways : null;
     }
 
     private long minded(int a, int b, int turn) {
@@ -939,7 +938,7 @@ public final class SinkingChoir {
         }
     }
 
-    /** Reads a text into a program, by the shape of its grammar; the first fault ends it. */
+    /** Reads a text into a program of its own, by the shape of the grammar; the first fault ends it. */
     private static final class Reader {
         static final int LONGEST = 200;
         /** The letters of E, in the order of Singing's row of what they are. */
@@ -954,16 +953,15 @@ public final class SinkingChoir {
         private static final int TOO_DEEP = 5;
 
         private final int[] signs = new int[LONGEST];
-        private Program out;
+        private Program out = new Program();
         private int length;
         private int at;
         private int fault;
 
         /** 0, or 1000 times the fault's number, more by its place. */
-        int read(int[] bytes, int n, Program into) {
+        int read(int[] bytes, int n) {
             length = Math.min(n, Math.min(bytes.length, LONGEST));
             System.arraycopy(bytes, 0, signs, 0, length);
-            out = into;
             out.clear();
             at = 0;
             fault = 0;
@@ -973,6 +971,13 @@ public final class SinkingChoir {
                 clause(c);
             }
             return fault;
+        }
+
+        /** What was read last, for a program that may be written over. */
+        Program exchange(Program old) {
+            Program mine = out;
+            out = old;
+            return mine;
         }
 
         private int here() {
