@@ -322,6 +322,7 @@ public final class SinkingChoir {
         if (!choir.has(i) || what < 0 || what > 3) {
             return NONE;
         }
+        singing.asTold();
         return fitting.find(i) ? fitting.told(what) : UNTOLD;
     }
 
@@ -346,6 +347,7 @@ public final class SinkingChoir {
         if (n < 0 || n > reel.length / 12) {
             return UNTOLD;
         }
+        singing.asTold();
         int wrong = firstWrong(n);
         reel.length = 0;
         return wrong;
@@ -391,7 +393,6 @@ public final class SinkingChoir {
 
     private int firstWrong(int n) {
         int threes = 0;
-        singing.asTold();
         for (int i = 0; i < choir.count; i++) {
             for (int b = 0; b < BEATS; b++) {
                 if (!choir.sings(i, b)) {
@@ -1560,9 +1561,11 @@ public final class SinkingChoir {
         void find(int n) {
             int first = choir.firstBeat();
             int last = choir.lastBeat();
-            chart(0, last, 0);
+            singing.sing(choir.places, 0, 0, false);
+            chart(0, last);
             for (int b = first + 1; b <= last; b++) {
-                chart(b, last, 1 << b);
+                singing.sing(choir.places, 1 << b, 0, false);
+                chart(b, last);
             }
             set = 0;
             greatest = Long.MAX_VALUE;
@@ -1580,12 +1583,11 @@ public final class SinkingChoir {
         }
 
         /**
-         * How far off any beat is from one on up to each later one. Once it is given again, nothing that was
-         * sung before matters: so what comes behind one giving is the same in every set up to the next one.
+         * How far off any beat that was sung is from one on up to each later one. Once it is given again, nothing
+         * that was sung before matters: so what comes behind a giving is the same in every set up to the next one.
          */
-        private void chart(int from, int last, int givings) {
+        private void chart(int from, int last) {
             long most = 0;
-            singing.sing(choir.places, givings, 0, false);
             for (int b = from; b <= last; b++) {
                 most = Math.max(most, Math.abs(singing.off(b)));
                 far[from * BEATS + b] = most;
@@ -1620,9 +1622,8 @@ public final class SinkingChoir {
             this.singing = singing;
         }
 
-        /** False: there is no beat with a note and a pitch on the tape. */
+        /** By what was sung last; false: there is no beat with a note and a pitch on the tape. */
         boolean find(int i) {
-            singing.asTold();
             Arrays.fill(differences, 0);
             for (int b = 0; b < BEATS; b++) {
                 if (choir.isRecorded(i, b)) {
